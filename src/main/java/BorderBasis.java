@@ -287,6 +287,7 @@ public final class BorderBasis {
         if (isOutside(i, POWER_LIMIT) || isOutside(j, POWER_LIMIT)) {
             throw new IllegalArgumentException();
         }
+        tables.prepare();
         tables.normalFormOfMonomial(i, j, column);
         return column[index];
     }
@@ -898,7 +899,7 @@ public final class BorderBasis {
 
         /** Puts matrix * vector in the place of the vector. */
         void applyTo(int[] vector, int[] scratch, int prime) {
-            int side = Math.min(rows, Math.min(vector.length, scratch.length));
+            int side = Math.min(Math.min(rows, columns), Math.min(vector.length, scratch.length));
             for (int row = 0; row < side; row++) {
                 int sum = 0;
                 for (int k = 0; k < side; k++) {
@@ -1092,8 +1093,8 @@ public final class BorderBasis {
             target.becomePower(base, exponent, scratch, state.prime);
         }
 
+        /** With tables that are prepared. */
         void normalFormOfMonomial(int i, int j, int[] target) {
-            prepare();
             Arrays.fill(target, 0);
             if (target.length > 0) {
                 target[0] = 1;
@@ -1258,9 +1259,8 @@ public final class BorderBasis {
             }
         }
 
-        /** Right only if the tables commute. */
+        /** To be asked when the zeros have been found; right only if the tables commute. */
         int multiplicityOf(int index) {
-            find();
             if (isOutside(index, found - 1)) {
                 return 0;
             }

@@ -228,7 +228,9 @@ public final class ModelTest {
             change();
             joinSomething();
         }
-        readText();
+        for (int k = random(3); k >= 0; k--) {
+            readText();
+        }
         askState();
     }
 

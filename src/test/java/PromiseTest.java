@@ -148,6 +148,38 @@ public final class PromiseTest {
         due(0, x.undo());
     }
 
+    private static void primes() {
+        Checks.promise(4, "load");
+        String primes = " 13 17 19 23 29 31 37 41 43 47 53 59 61 67 71 73 79 83 89 97 ";
+        BorderBasis x = new BorderBasis();
+        for (int number = 0; number <= 110; number++) {
+            boolean right = primes.contains(" " + number + " ");
+            due(right ? 1 : NONE, Checks.load(x, "prime " + number + ";"));
+            due(right ? 0 : 2, x.errorCode());
+            due(right ? NONE : 6, x.errorPosition());
+        }
+        due(97, x.count(0));
+    }
+
+    /** A text must not find what an earlier one has left. */
+    private static void loadAgain() {
+        Checks.promise(4, "load");
+        BorderBasis x = Checks.loaded("prime 13; rule 1 0 is 5 0 0; rule 0 1 is 6 0 0; point 1 2;");
+        due(1, Checks.load(x, "point 3 4;"));
+        due(31, x.count(0));
+        due(0, x.count(3));
+        due(1, x.count(4));
+        due(3, x.point(0, 0));
+        due(NONE, Checks.load(x, "rule 1 0 is 5 0 0; join 1 0; join 2 0; rule 3 0 is 1 0 0; point 0 0; ?"));
+        due(0, x.count(3));
+        due(2, Checks.load(x, "join 0 1;"));
+        due(0, x.count(3));
+        due(0, x.count(4));
+        due(NONE, Checks.reduce(x, "7 0 1, 5 0 0, 1"));
+        due(1, Checks.reduce(x, "1 0 0"));
+        dueResult(x, 1);
+    }
+
     private static void dueError(boolean isSetup, String text, int code, int position) {
         BorderBasis x = new BorderBasis();
         int answer = isSetup ? Checks.load(x, text) : Checks.reduce(x, text);
@@ -974,6 +1006,8 @@ public final class PromiseTest {
         truncateText();
         load();
         loadReplaces();
+        primes();
+        loadAgain();
         reduce();
         setupErrors();
         polynomialErrors();
