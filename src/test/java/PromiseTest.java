@@ -193,6 +193,8 @@ public final class PromiseTest {
         Object[][] cases = {
             {"", 0, NONE}, {"\n \n", 0, NONE}, {";", 1, 0}, {"join", 1, 4}, {"join ", 1, 5}, {"join 1", 1, 6},
             {"join 1 0", 1, 8}, {"join 1 0 \n", 1, 10}, {"join 1 0;;", 1, 9}, {"Join 1 0;", 1, 0},
+            {"zoin 1 0;", 1, 0}, {"joinz 1 0;", 1, 0}, {"joina 1 0;", 1, 0}, {"rule 1 0 as;", 1, 9},
+            {"join`1 0;", 1, 4}, {"join{1 0;", 1, 4}, {"join 1/0;", 1, 6}, {"join 1:0;", 1, 6}, {"join 1 9;", 4, 7},
             {"joins 1 0;", 1, 0}, {"joi 1 0;", 1, 0}, {"join 1,0;", 1, 6}, {"join 10;", 1, 7}, {"join 1 -0;", 1, 7},
             {"join 1 0 0;", 1, 9}, {"join 1 0$;", 1, 8}, {"join 12 $", 2, 5}, {"\tjoin 1 0;", 1, 0},
             {"join\r1 0;", 1, 4}, {"join 1 0;\u0000", 1, 9}, {"join 1 0;\u00e9", 1, 9}, {"is 1 0;", 1, 0},
@@ -344,6 +346,15 @@ public final class PromiseTest {
         // (12, 0) is outside of 0 to 11; (0, 1) can join though there are 12
         due(1, row.count(6));
         due(1, row.count(7));
+        row.leave(11, 0);
+        due(2, row.count(6));
+        BorderBasis high = new BorderBasis();
+        for (int j = 1; j < 11; j++) {
+            high.join(0, j);
+        }
+        due(2, high.count(6));
+        high.join(0, 11);
+        due(1, high.count(6));
         due(97, Checks.loaded("prime 97;").count(0));
     }
 
