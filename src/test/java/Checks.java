@@ -1,4 +1,11 @@
-/** What the hand-made tests share: answers that are due, and texts handed over four bytes a call. */
+import java.io.IOException;
+import java.nio.file.Files;
+import java.nio.file.Path;
+
+/**
+ * What the hand-made tests share: answers that are due, the sentences of the document that they are
+ * about, and texts handed over four bytes a call.
+ */
 final class Checks {
     /** A call of which an answer or an exception is due. */
     interface Call {
@@ -9,29 +16,68 @@ final class Checks {
     static final String INDEX = "IndexOutOfBoundsException";
     static final String STATE = "IllegalStateException";
 
+    private static final Path DOCUMENT = Path.of("../shared/DOC.md");
+    private static final String SECTION = "## Promise ";
+    private static final String DESCRIPTION = "## Description";
+
     private static int made;
     private static int wrong;
     private static String present = "";
+    private static String document;
 
     private Checks() {
     }
 
     static void promise(int number, String name) {
-        present = number + " (" + name + ")";
+        present = "promise " + number + " (" + name + ")";
+    }
+
+    /**
+     * The checks that follow are about this sentence of a promise, or of the description (0). It must
+     * stand there: a test of words that are no longer the document's has to be thought over.
+     */
+    static void sentence(int number, String words) {
+        present = (number == 0 ? "description" : "promise " + number) + ", " + words;
+        due(true, section(number).contains(words));
+    }
+
+    /** A section of the document without its back quotes. */
+    private static String section(int number) {
+        if (document == null) {
+            document = documentText();
+        }
+        int start = document.indexOf(number == 0 ? DESCRIPTION : SECTION + number + ":");
+        if (start < 0) {
+            return "";
+        }
+        int end = document.indexOf(number == 0 ? SECTION : "\n## ", start + 1);
+        return document.substring(start, end < 0 ? document.length() : end);
+    }
+
+    private static String documentText() {
+        try {
+            return Files.readString(DOCUMENT).replace("`", "");
+        } catch (IOException e) {
+            return "";
+        }
     }
 
     static void due(Object want, Object got) {
         made++;
         if (!want.equals(got)) {
             wrong++;
-            StackTraceElement[] trace = new Throwable().getStackTrace();
-            int depth = 1;
-            while (trace[depth].getClassName().equals("Checks")) {
-                depth++;
-            }
-            System.out.println("promise " + present + ", line " + trace[depth].getLineNumber()
-                + ": " + got + ", due is " + want);
+            System.out.println(present + ", line " + lineOfTest() + ": " + got + ", due is " + want);
         }
+    }
+
+    /** The line in the method that main called. */
+    private static int lineOfTest() {
+        StackTraceElement[] trace = new Throwable().getStackTrace();
+        int depth = trace.length - 1;
+        while (depth > 0 && trace[depth].getMethodName().equals("main")) {
+            depth--;
+        }
+        return trace[depth].getLineNumber();
     }
 
     static void dueThrow(String exception, Call call) {
