@@ -23,6 +23,8 @@ final class Checks {
     private static int made;
     private static int wrong;
     private static String present = "";
+    /** The number of checks when the latest sentence was told. */
+    private static int madeAtSentence = -1;
     private static String document;
 
     private Checks() {
@@ -33,12 +35,15 @@ final class Checks {
     }
 
     /**
-     * The checks that follow are about this sentence of a promise, or of the description (0). It must
-     * stand there: a test of words that are no longer the document's has to be thought over.
+     * The checks that follow are about this sentence of a promise, or of the description (0), and about
+     * those told just ahead of it. It must stand there: a test of words that are no longer the
+     * document's has to be thought over.
      */
     static void sentence(int number, String words) {
-        present = (number == 0 ? "description" : "promise " + number) + ", " + words;
+        String told = (number == 0 ? "description" : "promise " + number) + ", " + words;
+        present = made == madeAtSentence ? present + " / " + told : told;
         due(true, section(number).contains(words));
+        madeAtSentence = made;
     }
 
     /** A section of the document without its back quotes. */

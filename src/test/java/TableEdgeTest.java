@@ -97,6 +97,8 @@ public final class TableEdgeTest {
         // y is 1 * y in column 0; x times y is 0 in column 1, y times x is 30 * x
         dueClash(Checks.loaded("join 1 0; rule 1 1 is 30 1 0; rule 0 1 is 0 0 0;"), 0, 1, 0, 30, 1);
         dueClash(Checks.loaded("join 1 0; join 0 1; rule 2 0 is 1 0 0;"), 1, 2, 0, 1, 1);
+        // the least column comes ahead of the least row: they differ in (1, 0) and (0, 1)
+        dueClash(Checks.loaded("join 1 0; rule 2 0 is 1 0 0; rule 0 1 is 1 1 0; rule 1 1 is 1 0 0, 1 1 0;"), 0, 1, 0, 1, 2);
         BorderBasis all = Checks.loaded("prime 97;" + Samples.row(12));
         for (int k = 0; k < 12; k++) {
             all.setRule(0, k, 1);
