@@ -1,6 +1,10 @@
 import java.io.IOException;
 import java.nio.file.Files;
 import java.nio.file.Path;
+import java.util.Set;
+import java.util.TreeSet;
+import java.util.regex.Matcher;
+import java.util.regex.Pattern;
 
 /**
  * What the hand-made tests share: answers that are due, the sentences of the document that they are
@@ -23,6 +27,8 @@ final class Checks {
     private static int made;
     private static int wrong;
     private static String present = "";
+    /** What there was a check of, as promise() tells it, with a check's exception behind it. */
+    private static final Set<String> tested = new TreeSet<>();
     /** The number of checks when the latest sentence was told. */
     private static int madeAtSentence = -1;
     private static String document;
@@ -31,7 +37,12 @@ final class Checks {
     }
 
     static void promise(int number, String name) {
-        present = "promise " + number + " (" + name + ")";
+        about("promise " + number + " (" + name + ")");
+    }
+
+    /** What the checks that follow are about. */
+    static void about(String words) {
+        present = words;
     }
 
     /**
@@ -46,11 +57,27 @@ final class Checks {
         madeAtSentence = made;
     }
 
-    /** A section of the document without its back quotes. */
-    private static String section(int number) {
-        if (document == null) {
-            document = documentText();
+    /** Each promise of the document has had a check of its own, and each of its exceptions. */
+    static void dueEachPromise() {
+        Matcher heading = Pattern.compile("(?m)^" + SECTION + "(\\d+): (.+)$").matcher(document());
+        int found = 0;
+        while (heading.find()) {
+            found++;
+            int number = Integer.parseInt(heading.group(1));
+            promise(number, heading.group(2));
+            due(true, tested.contains(present));
+            Matcher exception = Pattern.compile("(?m)^Throws (\\w+)").matcher(section(number));
+            while (exception.find()) {
+                due(true, tested.contains(present + exception.group(1)));
+            }
         }
+        about("promises of the document");
+        due(38, found);
+    }
+
+    /** A section of the document. */
+    private static String section(int number) {
+        String document = document();
         int start = document.indexOf(number == 0 ? DESCRIPTION : SECTION + number + ":");
         if (start < 0) {
             return "";
@@ -59,16 +86,21 @@ final class Checks {
         return document.substring(start, end < 0 ? document.length() : end);
     }
 
-    private static String documentText() {
-        try {
-            return Files.readString(DOCUMENT).replace("`", "");
-        } catch (IOException e) {
-            return "";
+    /** The document without its back quotes. */
+    private static String document() {
+        if (document == null) {
+            try {
+                document = Files.readString(DOCUMENT).replace("`", "");
+            } catch (IOException e) {
+                document = "";
+            }
         }
+        return document;
     }
 
     static void due(Object want, Object got) {
         made++;
+        tested.add(present);
         if (!want.equals(got)) {
             wrong++;
             System.out.println(present + ", line " + lineOfTest() + ": " + got + ", due is " + want);
@@ -93,6 +125,7 @@ final class Checks {
             thrown = e.getClass().getSimpleName();
         }
         due(exception, thrown);
+        tested.add(present + exception);
     }
 
     static void send(BorderBasis basis, String text) {

@@ -1041,6 +1041,7 @@ public final class PromiseTest {
         misfits();
         undo();
         slots();
+        Checks.dueEachPromise();
         Checks.end();
     }
 }
