@@ -164,7 +164,7 @@ public final class ReadmeTest {
         }
     }
 
-    /** The commands for a shell: the first is the script, the others do by hand what it does. */
+    /** The commands for a shell: the first is the script, the second does by hand what it does for a test. */
     private static void checkCommands(List<Block> blocks) throws Exception {
         String script = Files.readString(SCRIPT);
         Checks.about(".ci/run");
@@ -185,7 +185,7 @@ public final class ReadmeTest {
             }
         }
         Checks.about("README.md, commands");
-        Checks.due(3, shown);
+        Checks.due(2, shown);
     }
 
     private static void checkCommandsByHand(Block block, String script) throws Exception {
